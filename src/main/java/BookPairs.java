@@ -973,9 +973,12 @@ public final class BookPairs {
 
         private void fillOthersAt(int place) {
             nextCosts[place] = FAR;
-            alikes[place] = place == end() && leastCosts[place] < FAR ? 1 : 0;
+            alikes[place] = 0;
             if (leastCosts[place] >= FAR) {
                 return;
+            }
+            if (place == end()) {
+                alikes[place] = 1;
             }
             for (int sort = 0; sort < SORTS; sort++) {
                 int cost = pairCosts[sort * PLACES + place];

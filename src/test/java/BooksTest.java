@@ -156,6 +156,9 @@ public final class BooksTest {
         for (int what = 0; what <= 5; what++) {
             CHECK.due("anew many " + what, x.many(what), anew[what]);
         }
+        CHECK.due("BEST anew", x.best(0), 1 + 3);
+        Check.books(x, "b;P9c,9c");
+        CHECK.due("BEST anew again", x.best(0), 0);
         CHECK.due("TRACE is not of the BOOKS", x.trace(), trace);
         CHECK.due("no second left one", x.ofLeft(1, 0), -1);
     }
@@ -277,6 +280,9 @@ public final class BooksTest {
         CHECK.due("t with all moved", x.move(0, 5, 1), -2);
         rights(x, "2b4d3c1a5e");
         CHECK.due("without books", new BookPairs().move(0, 1, 0), -1);
+        BookPairs seven = Check.made("b;P1-,1a,2b,3c,4d,5-,6a,7b");
+        CHECK.due("of seven", seven.move(5, 2, 1), 2);
+        rights(seven, "1a6a7b2b3c4d5e");
         BookPairs y = Check.made("b;P1a;P9b,9b,1a");
         int ahead = y.best(0);
         y.move(0, 1, 1);

@@ -66,7 +66,7 @@ public final class ReadingsTest {
         x.back(1);
         x.reading(0, 2);
         CHECK.due("it is long", x.kinds(0), 2);
-        CHECK.due("the other one as it is, or double", x.kinds(1), 1);
+        CHECK.due("the other one as it is", x.kinds(1), 1);
         x.back(1);
         x.reading(0, 3);
         CHECK.due("it is plain", x.kinds(0), 1);
@@ -128,6 +128,8 @@ public final class ReadingsTest {
         BookPairs z = Check.made("b;P1a;P2a;P3a,1a,2a,3a");
         share(z, 0, 1, 1);
         share(z, 4, 0, 1);
+        share(Check.made("b;P1a,1a"), 0, 1, 1);
+        share(Check.made("b;P1a,1a"), 3, 0, 1);
     }
 
     private static void oddsLost() {
