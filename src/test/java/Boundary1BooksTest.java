@@ -147,7 +147,8 @@ public final class Boundary1BooksTest {
 
     @Holds(promise = 2, to = "A TEXT that is taken makes all anew: SKIP is 4, JOIN 1, the BAND 7, no READINGS.")
     static void p02_takenText_makesAllAnew() {
-        Run run = Boundary.ready();
+        // BEST is asked for ahead of it, so that one sees that it is found anew.
+        Run run = Boundary.ready().due("best 0", 0);
         for (int k = 1; k < 8; k++) {
             run.due("reading 0 0", k);
         }
@@ -444,6 +445,13 @@ public final class Boundary1BooksTest {
     @Holds(promise = 7, to = "is MOVED to t")
     static void p07_bestIsThatOfTheMovedOnes() {
         Run.ofText("b;P1a;P9b,9b,1a").due("best 0", 10).due("move 1 1 0", 1).due("best 0", 0);
+    }
+
+    @Holds(promise = 7, to = "it is taken out, and put in again so that t others are ahead of it")
+    static void p07_movedTwice_andBehindNewLetters() {
+        Run run = Run.ofText("b;P1-,1a,2b,3c").with("letters 1 0 9", "move 0 1 2", "letters 1 0 8", "move 1 2 0");
+        run.due("ofRight 0 0", 3).due("ofRight 1 0", 9).due("ofRight 2 0", 8);
+        run.due("ofRight 0 1", 2).due("ofRight 1 1", 0).due("ofRight 2 1", 1);
     }
 
     @Holds(promise = 7, to = "OUTSIDE: n is below 1; UNKNOWN")
