@@ -30,6 +30,8 @@ public final class FaceTest {
         face();
         inside();
         source();
+        onlyConstructorsMakeObjects();
+        methodsAreShort();
         CHECK.end();
     }
 
@@ -78,9 +80,13 @@ public final class FaceTest {
         }
     }
 
-    private static void source() throws Exception {
+    private static String code() throws Exception {
         String text = Files.readString(Path.of("src/main/java/BookPairs.java"));
-        String code = text.replaceAll("(?s)/\\*.*?\\*/", "").replaceAll("//[^\n]*", "");
+        return text.replaceAll("(?s)/\\*.*?\\*/", "").replaceAll("//[^\n]*", "");
+    }
+
+    private static void source() throws Exception {
+        String code = code();
         for (String word : RULED_OUT) {
             CHECK.due("the word " + word, Pattern.compile("\\b" + word + "\\b").matcher(code).find() ? 1 : 0, 0);
         }
@@ -90,5 +96,36 @@ public final class FaceTest {
         while (imports.find()) {
             CHECK.due("import " + imports.group(1), imports.group(1).equals("java.util.Arrays") ? 1 : 0, 1);
         }
+    }
+
+    /** Rule 12, and the room that all calls of a run share: what is made is made with the object, never by a call. */
+    private static void onlyConstructorsMakeObjects() throws Exception {
+        String constructor = "sheets[k] = new Sheet();";
+        for (String line : code().split("\n")) {
+            if (Pattern.compile("\\bnew\\b|\\bclone\\b|\\bcopyOf|\\bString|\\bList\\b").matcher(line).find()) {
+                boolean ofField = line.matches(" +(private )?final [\\w\\[\\]]+ \\w+ = new .*;");
+                CHECK.due("made with the object:" + line, ofField || line.trim().equals(constructor) ? 1 : 0, 1);
+            }
+        }
+    }
+
+    /** Rule 11: at most seven parameters, some sixty lines. */
+    private static void methodsAreShort() throws Exception {
+        String[] lines = code().split("\n");
+        Pattern head = Pattern.compile("( +)\\w[\\w\\[\\] ]+\\(([^()]*)\\) \\{");
+        int methods = 0;
+        for (int k = 0; k < lines.length; k++) {
+            Matcher method = head.matcher(lines[k]);
+            if (method.matches() && !lines[k].matches(" +(if|for|while|switch) .*")) {
+                methods++;
+                int end = k;
+                while (end < lines.length && !lines[end].equals(method.group(1) + "}")) {
+                    end++;
+                }
+                CHECK.due("lines of" + lines[k], end - k < 60 ? 1 : 0, 1);
+                CHECK.due("parameters of" + lines[k], method.group(2).split(",").length <= 7 ? 1 : 0, 1);
+            }
+        }
+        CHECK.due("methods are seen", methods > CALLS.length ? 1 : 0, 1);
     }
 }
